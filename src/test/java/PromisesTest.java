@@ -150,6 +150,14 @@ public final class PromisesTest {
                 duePile("new: after run", x);
             }
         }
+        // Each procedure is a skip of its own: making one anew leaves the others so.
+        x = new BackAndForth();
+        for (int i = 0; i < 4; i++) {
+            updateProcedure(x, 0, UPDATE_ADD, 5, 7);
+        }
+        due("new: run(1, 0)", x.run(1, FORWARDS), BackAndForth.DONE);
+        due("new: run(2, 0)", x.run(2, FORWARDS), BackAndForth.DONE);
+        dueState("new: still skip", x, BackAndForth.DONE, 1);
     }
 
     // ---- promises 2 to 4
