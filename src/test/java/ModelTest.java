@@ -330,7 +330,7 @@ public final class ModelTest {
         return upTo(5) - 1;
     }
 
-    private static void build(BackAndForth x, Model m, int kind) {
+    private static void build(Trial x, Model m, int kind) {
         if (kind < 3) {
             int n = someNumber();
             due("number(" + n + ")", x.number(n), m.number(n));
@@ -358,7 +358,7 @@ public final class ModelTest {
     }
 
     /** X on the way in and Y on the way out of a loop that counts register r up to register s. */
-    private static int countingTests(BackAndForth x, Model m, int r, int s) {
+    private static int countingTests(Trial x, Model m, int r, int s) {
         due("discard()", x.discard(), m.discard());
         due("register(" + r + ")", x.register(r), m.register(r));
         due("number(0)", x.number(0), m.number(0));
@@ -370,7 +370,7 @@ public final class ModelTest {
     }
 
     /** Such a loop comes by chance too seldom. What it does beside counting is left to chance. */
-    private static int countingLoop(BackAndForth x, Model m) {
+    private static int countingLoop(Trial x, Model m) {
         int r = upTo(6);
         int s = upTo(6);
         int calls = countingTests(x, m, r, s);
@@ -395,7 +395,7 @@ public final class ModelTest {
     }
 
     /** Many calls in a row, so that a few procedures make many steps. */
-    private static int fan(BackAndForth x, Model m) {
+    private static int fan(Trial x, Model m) {
         due("discard()", x.discard(), m.discard());
         int wide = 2 + upTo(7);
         for (int i = 0; i < wide; i++) {
@@ -410,7 +410,7 @@ public final class ModelTest {
     }
 
     /** Brings what is on the stacks to one statement, as far as the limits and chance let it. */
-    private static int finish(BackAndForth x, Model m) {
+    private static int finish(Trial x, Model m) {
         int calls = 0;
         while (calls < 24 && (m.statements.size() > 1 || !m.expressions.isEmpty())) {
             if (m.statements.size() > 1 && m.expressions.size() > 1) {
@@ -430,7 +430,7 @@ public final class ModelTest {
         return calls + 1;
     }
 
-    private static int observe(BackAndForth x, Model m) {
+    private static int observe(Trial x, Model m) {
         due("outcome()", x.outcome(), m.outcome);
         due("steps()", x.steps(), m.steps);
         due("pile()", x.pile(), m.pile.size());
@@ -443,7 +443,7 @@ public final class ModelTest {
         return 11;
     }
 
-    private static int runOnce(BackAndForth x, Model m) {
+    private static int runOnce(Trial x, Model m) {
         int p = about(3);
         int backwards = upTo(2) == 0 ? 0 : upTo(5) - 2;
         int want = m.run(p, backwards);
@@ -456,7 +456,7 @@ public final class ModelTest {
 
     private static void oneObject() {
         told.setLength(0);
-        BackAndForth x = new BackAndForth();
+        Trial x = new Trial();
         Model m = new Model();
         int calls = 0;
         int eager = 8 + upTo(40);

@@ -75,7 +75,7 @@ public final class PromisesTest {
 
     // ---- helpers
 
-    private static void dueState(String what, BackAndForth x, int outcome, int steps, int... registers) {
+    private static void dueState(String what, Trial x, int outcome, int steps, int... registers) {
         due(what + ": outcome", x.outcome(), outcome);
         due(what + ": steps", x.steps(), steps);
         for (int r = 0; r < 6; r++) {
@@ -83,7 +83,7 @@ public final class PromisesTest {
         }
     }
 
-    private static void duePile(String what, BackAndForth x, int... fromTop) {
+    private static void duePile(String what, Trial x, int... fromTop) {
         due(what + ": pile", x.pile(), fromTop.length);
         for (int i = 0; i < fromTop.length; i++) {
             due(what + ": onPile(" + i + ")", x.onPile(i), fromTop[i]);
@@ -91,32 +91,32 @@ public final class PromisesTest {
         due(what + ": onPile beyond", x.onPile(fromTop.length), 0);
     }
 
-    private static void fillExpressions(BackAndForth x) {
+    private static void fillExpressions(Trial x) {
         for (int i = 1; i <= 24; i++) {
             due("number " + i + " of 24", x.number(i), i);
         }
     }
 
-    private static void fillStatements(BackAndForth x) {
+    private static void fillStatements(Trial x) {
         for (int i = 1; i <= 16; i++) {
             due("skip " + i + " of 16", x.simple(SKIP, 0, 0), i);
         }
     }
 
     /** Procedure p becomes: op r by the number n. */
-    private static void updateProcedure(BackAndForth x, int p, int op, int r, int n) {
+    private static void updateProcedure(Trial x, int p, int op, int r, int n) {
         x.number(n);
         x.update(op, r);
         due("procedure of one update", x.procedure(p), 1);
     }
 
-    private static void simpleProcedure(BackAndForth x, int p, int op, int r, int n) {
+    private static void simpleProcedure(Trial x, int p, int op, int r, int n) {
         x.simple(op, r, n);
         due("procedure of one simple", x.procedure(p), 1);
     }
 
     /** Procedure p becomes a loop of skips that is left when register 0, counted up, is `times`. */
-    private static void countingLoop(BackAndForth x, int p, int times) {
+    private static void countingLoop(Trial x, int p, int times) {
         x.register(0);
         x.number(0);
         x.apply(SAME);
@@ -135,7 +135,7 @@ public final class PromisesTest {
     // ---- promise 1
 
     private static void newObject() {
-        BackAndForth x = new BackAndForth();
+        Trial x = new Trial();
         dueState("new", x, BackAndForth.NONE, 0);
         duePile("new", x);
         due("new: discard", x.discard(), 0);
@@ -143,7 +143,7 @@ public final class PromisesTest {
         due("new: apply", x.apply(ADD), BackAndForth.TOO_FEW);
         for (int p = 0; p < 3; p++) {
             for (int b = 0; b < 2; b++) {
-                x = new BackAndForth();
+                x = new Trial();
                 x.load(3, 9);
                 due("new: run(" + p + ", " + b + ")", x.run(p, b), BackAndForth.DONE);
                 dueState("new: after run", x, BackAndForth.DONE, 1, 0, 0, 0, 9);
@@ -151,7 +151,7 @@ public final class PromisesTest {
             }
         }
         // Each procedure is a skip of its own: making one anew leaves the others so.
-        x = new BackAndForth();
+        x = new Trial();
         for (int i = 0; i < 4; i++) {
             updateProcedure(x, 0, UPDATE_ADD, 5, 7);
         }
@@ -163,7 +163,7 @@ public final class PromisesTest {
     // ---- promises 2 to 4
 
     private static void numbers() {
-        BackAndForth x = new BackAndForth();
+        Trial x = new Trial();
         due("number(-101)", x.number(-101), BackAndForth.BAD_ARG);
         due("number(101)", x.number(101), BackAndForth.BAD_ARG);
         for (int far : FAR) {
@@ -181,7 +181,7 @@ public final class PromisesTest {
     }
 
     private static void registers() {
-        BackAndForth x = new BackAndForth();
+        Trial x = new Trial();
         due("register(-1)", x.register(-1), BackAndForth.BAD_ARG);
         due("register(6)", x.register(6), BackAndForth.BAD_ARG);
         for (int far : FAR) {
@@ -200,7 +200,7 @@ public final class PromisesTest {
     }
 
     private static void applying() {
-        BackAndForth x = new BackAndForth();
+        Trial x = new Trial();
         due("apply of none", x.apply(ADD), BackAndForth.TOO_FEW);
         x.number(1);
         due("apply of one", x.apply(ADD), BackAndForth.TOO_FEW);
@@ -218,7 +218,7 @@ public final class PromisesTest {
     }
 
     private static void expressionsFull() {
-        BackAndForth x = new BackAndForth();
+        Trial x = new Trial();
         fillExpressions(x);
         due("number, full", x.number(0), BackAndForth.FULL);
         due("register, full", x.register(0), BackAndForth.FULL);
@@ -233,7 +233,7 @@ public final class PromisesTest {
     }
 
     private static void expressionsFullOutlastsTaking() {
-        BackAndForth x = new BackAndForth();
+        Trial x = new Trial();
         for (int i = 0; i < 12; i++) {
             due("number", x.number(1), 1);
             due("check", x.update(CHECK, 0), i == 0 ? 1 : 2);
@@ -253,7 +253,7 @@ public final class PromisesTest {
         due("the 17th statement", x.update(CHECK, 0), BackAndForth.FULL);
 
         // FULL comes before TOO_FEW in apply: here one expression is left.
-        x = new BackAndForth();
+        x = new Trial();
         x.number(1);
         for (int i = 0; i < 11; i++) {
             x.number(1);
@@ -271,7 +271,7 @@ public final class PromisesTest {
     }
 
     private static int applied(int op, int a, int b) {
-        BackAndForth x = new BackAndForth();
+        Trial x = new Trial();
         x.register(1);
         x.register(2);
         x.apply(op);
@@ -304,7 +304,7 @@ public final class PromisesTest {
     // ---- promise 5
 
     private static void simples() {
-        BackAndForth x = new BackAndForth();
+        Trial x = new Trial();
         int[] noOps = {-1, 6, Integer.MIN_VALUE, Integer.MAX_VALUE};
         for (int op : noOps) {
             due("simple(" + op + ")", x.simple(op, 0, 0), BackAndForth.BAD_ARG);
@@ -346,7 +346,7 @@ public final class PromisesTest {
     }
 
     private static void simplesRun() {
-        BackAndForth x = new BackAndForth();
+        Trial x = new Trial();
         simpleProcedure(x, 0, SWAP, 1, 4);
         simpleProcedure(x, 1, SWAP, 3, 3);
         x.load(1, 11);
@@ -361,7 +361,7 @@ public final class PromisesTest {
     }
 
     private static void pushAndPop() {
-        BackAndForth x = new BackAndForth();
+        Trial x = new Trial();
         simpleProcedure(x, 0, PUSH, 2, 0);
         simpleProcedure(x, 1, POP, 3, 0);
         x.load(2, -7);
@@ -388,7 +388,7 @@ public final class PromisesTest {
     }
 
     private static void pileEdges() {
-        BackAndForth x = new BackAndForth();
+        Trial x = new Trial();
         simpleProcedure(x, 0, PUSH, 0, 0);
         simpleProcedure(x, 1, POP, 1, 0);
         due("pop, empty", x.run(1, FORWARDS), BackAndForth.FAILED);
@@ -416,7 +416,7 @@ public final class PromisesTest {
     }
 
     private static void callsAndBacks() {
-        BackAndForth x = new BackAndForth();
+        Trial x = new Trial();
         updateProcedure(x, 0, UPDATE_ADD, 0, 3);
         simpleProcedure(x, 1, CALL, 0, 0);
         simpleProcedure(x, 2, BACK, 0, 0);
@@ -440,7 +440,7 @@ public final class PromisesTest {
     // ---- promise 6
 
     private static void updates() {
-        BackAndForth x = new BackAndForth();
+        Trial x = new Trial();
         int[] noOps = {-1, 4, Integer.MIN_VALUE, Integer.MAX_VALUE, Integer.MAX_VALUE - 3};
         due("update of none", x.update(UPDATE_ADD, 0), BackAndForth.TOO_FEW);
         due("check of none", x.update(CHECK, 0), BackAndForth.TOO_FEW);
@@ -484,7 +484,7 @@ public final class PromisesTest {
         int[] starts = {0, 5, -9, Integer.MAX_VALUE, Integer.MIN_VALUE};
         int[] values = {0, 1, -1, 12345, Integer.MAX_VALUE, Integer.MIN_VALUE};
         for (int op : ops) {
-            BackAndForth x = new BackAndForth();
+            Trial x = new Trial();
             x.register(2);
             x.update(op, 3);
             x.procedure(1);
@@ -505,7 +505,7 @@ public final class PromisesTest {
                 }
             }
         }
-        BackAndForth x = new BackAndForth();
+        Trial x = new Trial();
         x.register(0);
         x.update(CHECK, 0);
         x.procedure(0);
@@ -523,7 +523,7 @@ public final class PromisesTest {
     private static void selfUse() {
         for (int r = 0; r < 6; r++) {
             for (int op = 0; op < 3; op++) {
-                BackAndForth x = new BackAndForth();
+                Trial x = new Trial();
                 x.register(r);
                 due("self", x.update(op, r), BackAndForth.BAD_SELF);
                 x.number(2);
@@ -554,7 +554,7 @@ public final class PromisesTest {
     // ---- promises 7 and 8
 
     private static void seqs() {
-        BackAndForth x = new BackAndForth();
+        Trial x = new Trial();
         due("seq of none", x.seq(), BackAndForth.TOO_FEW);
         x.number(2);
         x.update(UPDATE_ADD, 0);
@@ -574,7 +574,7 @@ public final class PromisesTest {
     }
 
     private static void testeds() {
-        BackAndForth x = new BackAndForth();
+        Trial x = new Trial();
         int[] noOps = {-1, 2, Integer.MIN_VALUE, Integer.MAX_VALUE};
         for (int op : noOps) {
             due("tested(" + op + ") of none", x.tested(op), BackAndForth.BAD_ARG);
@@ -609,8 +609,8 @@ public final class PromisesTest {
     }
 
     /** Procedure 0: op, X register 0, Y register 1, A adds 1 to register 2, B adds 10 to it. */
-    private static BackAndForth branches(int op) {
-        BackAndForth x = new BackAndForth();
+    private static Trial branches(int op) {
+        Trial x = new Trial();
         x.register(0);
         x.register(1);
         x.number(1);
@@ -623,9 +623,9 @@ public final class PromisesTest {
     }
 
     private static void ifs() {
-        BackAndForth x = branches(IF);
         int[] truths = {0, 1, -1, 256, Integer.MIN_VALUE};
         for (int first : truths) {
+            Trial x = branches(IF);
             for (int second : truths) {
                 String of = "if with " + first + ", " + second;
                 boolean fits = (first != 0) == (second != 0);
@@ -642,7 +642,7 @@ public final class PromisesTest {
             }
         }
         // X alone chooses forwards, Y alone backwards: A sets what Y asks for.
-        x = new BackAndForth();
+        Trial x = new Trial();
         x.register(0);
         x.number(5);
         x.apply(SAME);
@@ -670,7 +670,7 @@ public final class PromisesTest {
 
     private static void loops() {
         // X and Y don't change: with X true the loop either ends after A or fails after B.
-        BackAndForth x = branches(LOOP);
+        Trial x = branches(LOOP);
         for (int b = 0; b < 2; b++) {
             int sign = b == 0 ? 1 : -1;
             x.load(2, 0);
@@ -686,7 +686,7 @@ public final class PromisesTest {
             dueState("loop, fails after B", x, BackAndForth.FAILED, 2, b == 0 ? -1 : 0, b == 0 ? 0 : -1, sign);
         }
         // Counts register 0 up from 0 to register 1; A adds 10 to register 2, B adds 1 to register 0.
-        x = new BackAndForth();
+        x = new Trial();
         x.register(0);
         x.number(0);
         x.apply(SAME);
@@ -712,7 +712,7 @@ public final class PromisesTest {
     // ---- promises 9 to 11
 
     private static void discards() {
-        BackAndForth x = new BackAndForth();
+        Trial x = new Trial();
         x.number(1);
         x.number(2);
         due("discard of expressions alone", x.discard(), 0);
@@ -736,7 +736,7 @@ public final class PromisesTest {
     }
 
     private static void procedures() {
-        BackAndForth x = new BackAndForth();
+        Trial x = new Trial();
         int[] none = {-1, 3, Integer.MIN_VALUE, Integer.MAX_VALUE};
         for (int p : none) {
             due("procedure(" + p + "), BAD_ARG before TOO_FEW", x.procedure(p), BackAndForth.BAD_ARG);
@@ -793,7 +793,7 @@ public final class PromisesTest {
     }
 
     private static void loads() {
-        BackAndForth x = new BackAndForth();
+        Trial x = new Trial();
         int[] none = {-1, 6, Integer.MIN_VALUE, Integer.MAX_VALUE};
         for (int r : none) {
             due("load(" + r + ")", x.load(r, 1), BackAndForth.BAD_ARG);
@@ -811,7 +811,7 @@ public final class PromisesTest {
     // ---- promises 12, 13 and 17, and how runs end
 
     private static void runs() {
-        BackAndForth x = new BackAndForth();
+        Trial x = new Trial();
         int[] none = {-1, 3, Integer.MIN_VALUE, Integer.MAX_VALUE};
         for (int p : none) {
             due("run(" + p + ")", x.run(p, 0), BackAndForth.BAD_ARG);
@@ -836,7 +836,7 @@ public final class PromisesTest {
     }
 
     private static void endings() {
-        BackAndForth x = new BackAndForth();
+        Trial x = new Trial();
         // Changes registers and pile, then fails by check of register 5.
         x.simple(PUSH, 0, 0);
         x.simple(POP, 1, 0);
@@ -874,7 +874,7 @@ public final class PromisesTest {
 
     private static void tiredEdges() {
         // A, then n times B and A: 2n + 1 steps.
-        BackAndForth x = new BackAndForth();
+        Trial x = new Trial();
         countingLoop(x, 0, 149);
         due("299 steps", x.run(0, FORWARDS), BackAndForth.DONE);
         dueState("299 steps", x, BackAndForth.DONE, 299, 149, 149);
@@ -926,7 +926,7 @@ public final class PromisesTest {
 
     private static void deepEdges() {
         // Procedure 0 calls itself until register 0, counted down, is 0; register 1 counts up.
-        BackAndForth x = new BackAndForth();
+        Trial x = new Trial();
         x.register(0);
         x.number(1);
         x.update(UPDATE_SUB, 0);
@@ -982,7 +982,7 @@ public final class PromisesTest {
 
     /** The call that would be too deep is step 297 and so many. */
     private static void deepOrTired(int skips, int ending) {
-        BackAndForth x = new BackAndForth();
+        Trial x = new Trial();
         countingLoop(x, 0, 13);
         x.simple(CALL, 0, 0);
         x.simple(BACK, 0, 0);
@@ -1008,7 +1008,7 @@ public final class PromisesTest {
 
     /** The deepest nest that 16 statements allow, in every one of the calls that may be open. */
     private static void deepAndWide() {
-        BackAndForth x = new BackAndForth();
+        Trial x = new Trial();
         x.simple(CALL, 0, 0);
         for (int i = 0; i < 7; i++) {
             x.simple(SKIP, 0, 0);
@@ -1034,7 +1034,7 @@ public final class PromisesTest {
     // ---- promises 14 to 16
 
     private static void looksAndPile() {
-        BackAndForth x = new BackAndForth();
+        Trial x = new Trial();
         int[] none = {-1, 6, Integer.MIN_VALUE, Integer.MAX_VALUE};
         for (int r = 0; r < 6; r++) {
             x.load(r, r + 1);
@@ -1059,7 +1059,7 @@ public final class PromisesTest {
     // ---- promise 18
 
     private static void orderAndLimits() {
-        BackAndForth x = new BackAndForth();
+        Trial x = new Trial();
         for (int i = 0; i < 8; i++) {
             x.simple(SKIP, 0, 0);
         }
@@ -1084,13 +1084,13 @@ public final class PromisesTest {
         }
     }
 
-    private static void simpleProcedureAfterDiscard(BackAndForth x) {
+    private static void simpleProcedureAfterDiscard(Trial x) {
         x.discard();
         simpleProcedure(x, 0, POP, 0, 0);
     }
 
     private static void refusedChangesNothing() {
-        BackAndForth x = new BackAndForth();
+        Trial x = new Trial();
         x.number(3);
         x.register(1);
         x.simple(PUSH, 2, 0);
