@@ -176,6 +176,8 @@ public final class CallsTest {
             Report.duePile(x);
             Report.dueRegisters(other, 1, 2, 3, 4, 5, 6);
             Report.duePile(other, 4, 3);
+            due("outcome of the other", other.outcome(), FAILED);
+            due("steps of the other", other.steps(), 1);
             due("discard of the other", other.discard(), 3);
         });
     }
@@ -855,7 +857,7 @@ public final class CallsTest {
             dueEmptyStacks(x);
         });
         Report.sentence("9: nothing but the stacks is changed", () -> {
-            Trial x = new Trial().pileUp(8, 9).make(1, "n0 check").fill(1, 2, 3, 4, 5, 6);
+            Trial x = new Trial().pileUp(8, 9).make(1, "n0 check").make(2, "n4 add5").fill(1, 2, 3, 4, 5, 6);
             x.run(1, 0);
             x.put("n1 n2 skip skip");
             x.discard();
@@ -865,6 +867,8 @@ public final class CallsTest {
             Report.duePile(x, 9, 8);
             Report.dueRun(x, 1, 0, FAILED, 1);
             Report.dueRun(x, 0, 0, DONE, 1);
+            Report.dueRun(x, 2, 0, DONE, 1);
+            Report.dueRegisters(x, 0, 2, 3, 4, 5, 10);
             Report.duePile(x, 1, 9, 8);
         });
     }

@@ -25,6 +25,13 @@ public final class RunsTest {
         "skip", "n1 add0", "n1 sub0", "n1 xor0", "swap01", "push0", "pop0", "n1 check", "call2", "back2",
     };
 
+    private static final String STIRRING_REGISTERS =
+        "n1 add0 n1 sub1 seq n7 add2 seq n9 xor3 seq n1 add4 seq n1 add5 seq";
+
+    /** Changes the pile too, in place and in height, and can be run in either direction. */
+    private static final String STIRRING =
+        "pop0 n5 add0 seq push0 seq push1 seq n7 add2 seq n9 xor3 seq n1 add4 seq n1 add5 seq";
+
     public static void main(String[] args) {
         arithmetic();
         truth();
@@ -612,8 +619,9 @@ public final class RunsTest {
                 Report.dueRegisters(x);
             });
             Report.sentence(named + "X is not looked at after A, nor Y after B", () -> {
-                Trial x = of(inAndOut(way, "r2 n0 = r2 n" + sign + " = +", "r2 n" + 11 * sign + " = r2 n" + 12 * sign + " = +")
-                    + parts);
+                String in = "r2 n0 = r2 n" + sign + " = +";
+                String out = "r2 n" + 11 * sign + " = r2 n" + 12 * sign + " = +";
+                Trial x = of(inAndOut(way, in, out) + parts);
                 Report.dueRun(x, 1, way, DONE, 3);
                 Report.dueRegisters(x, 0, 0, 12 * sign);
             });
@@ -718,6 +726,14 @@ public final class RunsTest {
                     Report.dueRun(before(299, way, words), 1, way, FAILED, 300);
                     Report.dueRun(before(300, way, words), 1, way, TIRED, 300);
                     Report.dueRun(before(299, way, inTurn(way, "skip", words)), 1, way, TIRED, 300);
+                }
+                for (int steps = 299; steps <= 300; steps++) {
+                    Trial x = before(steps, way, pushing(way, 0)).make(2, "push0");
+                    for (int i = 0; i < 12; i++) {
+                        due("push", x.run(2, FORWARDS), DONE);
+                    }
+                    Report.dueRun(x, 1, way, steps == 299 ? FAILED : TIRED, 300);
+                    due("pile", x.pile(), 12);
                 }
             }
         });
@@ -932,7 +948,8 @@ public final class RunsTest {
         x.load(0, 6);
         Report.dueRun(x, 0, way, FAILED, 13);
         Report.dueRun(x, 1, way, DONE, 19);
-        x.make(0, "r0 r0 n1 sub0 call0 seq n1 add0 seq call2 if").make(2, inAndOut(way, "r2 n0 =", "n0") + " n1 add2 skip loop");
+        x.make(0, "r0 r0 n1 sub0 call0 seq n1 add0 seq call2 if");
+        x.make(2, inAndOut(way, "r2 n0 =", "n0") + " n1 add2 skip loop");
         x.fill(5, 0);
         Report.dueRun(x, 0, way, TIRED, 300);
         x.load(0, 6);
@@ -941,12 +958,6 @@ public final class RunsTest {
     }
 
     // ---- what is left
-
-    private static final String STIRRING_REGISTERS = "n1 add0 n1 sub1 seq n7 add2 seq n9 xor3 seq n1 add4 seq n1 add5 seq";
-
-    /** Changes the pile, in place and in height, and can be run in either direction. */
-    private static final String STIRRING = "pop0 n5 add0 seq push0 seq push1 seq n7 add2 seq n9 xor3 seq n1 add4 seq"
-        + " n1 add5 seq";
 
     private static void leftAsItWas() {
         for (int way : WAYS) {
