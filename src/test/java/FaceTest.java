@@ -5,12 +5,14 @@ import java.lang.reflect.Method;
 import java.lang.reflect.Modifier;
 import java.nio.file.Files;
 import java.nio.file.Path;
+import java.util.Map;
 import java.util.Set;
+import java.util.TreeMap;
 import java.util.TreeSet;
 import java.util.regex.Matcher;
 import java.util.regex.Pattern;
 
-/** The public face of the document, and those rules of LANGUAGE.md that are easily looked at. */
+/** The public face of the document, and those rules of LANGUAGE.md that can be read off the source. */
 public final class FaceTest {
     private static final Path SOURCE = Path.of("src/main/java/BackAndForth.java");
 
@@ -27,8 +29,12 @@ public final class FaceTest {
     private static final String[] FORBIDDEN = {
         "import", "package", "float", "double", "String", "Math", "Integer", "System", "Arrays", "Object",
         "throw", "throws", "try", "catch", "synchronized", "assert", "instanceof", "null", "interface",
-        "enum", "record", "protected", "var", "->", "::",
+        "enum", "record", "protected", "var", "static {", "->", "::",
+        "equals", "hashCode", "toString", "getClass", "clone", "notify", "notifyAll", "wait", "finalize",
     };
+
+    private static final int DEEPEST = 6;
+    private static final int LONGEST = 60;
 
     private static int wrong = 0;
 
@@ -47,7 +53,12 @@ public final class FaceTest {
         constructors(c);
         methods(c);
         fields(c);
-        source();
+        String text = Files.readString(SOURCE);
+        String code = text.replaceAll("(?s)/\\*.*?\\*/", " ").replaceAll("//[^\n]*", " ");
+        words(code);
+        arguments(code);
+        madeOnce(code);
+        calls(code);
         System.out.println(wrong == 0 ? "the face is as due" : wrong + " things are not as due");
         if (wrong != 0) {
             System.exit(1);
@@ -107,25 +118,63 @@ public final class FaceTest {
         must(state <= 40, "at most some forty fields: " + state);
     }
 
-    private static void source() throws IOException {
-        String text = Files.readString(SOURCE);
-        String code = text.replaceAll("(?s)/\\*.*?\\*/", " ").replaceAll("//[^\n]*", " ");
+    private static void words(String code) {
         for (String word : FORBIDDEN) {
-            boolean isWord = Character.isLetter(word.charAt(0));
+            boolean isWord = word.matches("\\w+");
             Matcher m = Pattern.compile(isWord ? "\\b" + word + "\\b" : Pattern.quote(word)).matcher(code);
             must(!m.find(), "no " + word);
         }
-        // A call among the arguments of another call; what decides and loops is no call.
+        // Constants are in capitals throughout, so that this finds the names of classes.
+        Matcher named = Pattern.compile("\\b[A-Z]\\w*[a-z]\\w*\\b").matcher(code);
+        while (named.find()) {
+            must(named.group().equals("BackAndForth"), "no other class: " + named.group());
+        }
+    }
+
+    /** A call among the arguments of another call; what decides and loops is no call. */
+    private static void arguments(String code) {
         Matcher nested = Pattern.compile("\\b(?!if\\b|for\\b|while\\b|switch\\b|return\\b)(\\w+)\\(([^;{]*)").matcher(code);
         while (nested.find()) {
             must(!argumentsOf(nested.group(2)).matches("(?s).*\\b\\w+\\(.*"), "no call in the arguments of " + nested.group(1));
             nested.region(nested.start(2), code.length());
         }
+    }
+
+    private static void madeOnce(String code) {
         Matcher made = Pattern.compile("\\bnew\\b").matcher(code);
         while (made.find()) {
             String line = code.substring(code.lastIndexOf('\n', made.start()) + 1, code.indexOf('\n', made.start()));
             must(line.matches("    private final \\w+\\[\\] \\w+ = new \\w+\\[\\w+\\];"), "made in an initialiser: " + line);
         }
+    }
+
+    /** How long the methods are and how deep their calls go; where they go in a circle they go on too deep. */
+    private static void calls(String code) {
+        Map<String, String> bodies = new TreeMap<>();
+        Matcher method = Pattern.compile("(?ms)^    (?:public|private)(?: static)? \\w+ (\\w+)\\([^)]*\\) \\{\n(.*?)^    \\}").matcher(code);
+        while (method.find()) {
+            must(bodies.put(method.group(1), method.group(2)) == null, method.group(1) + " is there once");
+            must(method.group(2).lines().count() <= LONGEST, method.group(1) + " is short");
+        }
+        must(bodies.size() == BackAndForth.class.getDeclaredMethods().length, "all methods were read: " + bodies.keySet());
+        Set<String> reached = bodies.keySet();
+        for (int depth = 1; depth <= DEEPEST; depth++) {
+            reached = calledBy(reached, bodies);
+        }
+        must(reached.isEmpty(), "calls go at most six deep, but these are reached: " + reached);
+    }
+
+    private static Set<String> calledBy(Set<String> callers, Map<String, String> bodies) {
+        Set<String> called = new TreeSet<>();
+        for (String caller : callers) {
+            Matcher call = Pattern.compile("\\b(\\w+)\\(").matcher(bodies.get(caller));
+            while (call.find()) {
+                if (bodies.containsKey(call.group(1))) {
+                    called.add(call.group(1));
+                }
+            }
+        }
+        return called;
     }
 
     /** What stands before the bracket that closes the call. */

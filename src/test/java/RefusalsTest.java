@@ -52,6 +52,7 @@ public final class RefusalsTest {
         tooFew();
         badSelf();
         noThrow();
+        noThrowLater();
         Report.end();
     }
 
@@ -399,6 +400,37 @@ public final class RefusalsTest {
                 }
                 thenUse(state.get(), new Call("seq"));
             });
+        }
+    }
+
+    /** What calls answer after the 512th is free, but no call may throw in any state. */
+    private static void noThrowLater() {
+        Report.sentence("no call ever throws, after the 512th as before", () -> {
+            BackAndForth x = new BackAndForth();
+            long row = 1;
+            for (int i = 0; i < 200_000; i++) {
+                row = row * 6364136223846793005L + 1442695040888963407L;
+                callAny(x, (int) (row >>> 60), (int) (row >>> 40) % 7, (int) (row >>> 50) % 6, (int) (row >>> 55) % 5);
+            }
+        });
+    }
+
+    private static void callAny(BackAndForth x, int which, int op, int r, int n) {
+        switch (which) {
+            case 0 -> x.number(n);
+            case 1 -> x.register(r);
+            case 2 -> x.apply(op);
+            case 3, 4 -> x.simple(op, r, n);
+            case 5 -> x.update(op, r);
+            case 6, 7 -> x.seq();
+            case 8 -> x.tested(n);
+            case 9 -> x.procedure(n);
+            case 10 -> x.load(r, op);
+            case 11 -> x.run(n, op & 1);
+            case 12 -> x.look(r);
+            case 13 -> x.onPile(r);
+            case 14 -> x.pile();
+            default -> x.discard();
         }
     }
 
