@@ -33,6 +33,13 @@ public final class FaceTest {
         "equals", "hashCode", "toString", "getClass", "clone", "notify", "notifyAll", "wait", "finalize",
     };
 
+    private static final Pattern CALL = Pattern.compile("\\b(\\w+)\\(");
+    private static final Pattern CALL_WITH_REST =
+        Pattern.compile("\\b(?!if\\b|for\\b|while\\b|switch\\b|return\\b)(\\w+)\\(([^;{]*)");
+    private static final Pattern METHOD = Pattern.compile(
+        "(?ms)^    (?:public|private)(?: static)? \\w+ (\\w+)\\([^)]*\\) \\{\n(.*?)^    \\}");
+    private static final String ARRAY_FIELD = "    private final \\w+\\[\\] \\w+ = new \\w+\\[\\w+\\];";
+
     private static final int DEEPEST = 6;
     private static final int LONGEST = 60;
 
@@ -133,9 +140,10 @@ public final class FaceTest {
 
     /** A call among the arguments of another call; what decides and loops is no call. */
     private static void arguments(String code) {
-        Matcher nested = Pattern.compile("\\b(?!if\\b|for\\b|while\\b|switch\\b|return\\b)(\\w+)\\(([^;{]*)").matcher(code);
+        Matcher nested = CALL_WITH_REST.matcher(code);
         while (nested.find()) {
-            must(!argumentsOf(nested.group(2)).matches("(?s).*\\b\\w+\\(.*"), "no call in the arguments of " + nested.group(1));
+            boolean hasCall = CALL.matcher(argumentsOf(nested.group(2))).find();
+            must(!hasCall, "no call in the arguments of " + nested.group(1));
             nested.region(nested.start(2), code.length());
         }
     }
@@ -144,19 +152,20 @@ public final class FaceTest {
         Matcher made = Pattern.compile("\\bnew\\b").matcher(code);
         while (made.find()) {
             String line = code.substring(code.lastIndexOf('\n', made.start()) + 1, code.indexOf('\n', made.start()));
-            must(line.matches("    private final \\w+\\[\\] \\w+ = new \\w+\\[\\w+\\];"), "made in an initialiser: " + line);
+            must(line.matches(ARRAY_FIELD), "made in an initialiser: " + line);
         }
     }
 
-    /** How long the methods are and how deep their calls go; where they go in a circle they go on too deep. */
+    /** How long the methods are and how deep their calls go: in a circle they would go on for ever. */
     private static void calls(String code) {
         Map<String, String> bodies = new TreeMap<>();
-        Matcher method = Pattern.compile("(?ms)^    (?:public|private)(?: static)? \\w+ (\\w+)\\([^)]*\\) \\{\n(.*?)^    \\}").matcher(code);
+        Matcher method = METHOD.matcher(code);
         while (method.find()) {
             must(bodies.put(method.group(1), method.group(2)) == null, method.group(1) + " is there once");
             must(method.group(2).lines().count() <= LONGEST, method.group(1) + " is short");
         }
-        must(bodies.size() == BackAndForth.class.getDeclaredMethods().length, "all methods were read: " + bodies.keySet());
+        int declared = BackAndForth.class.getDeclaredMethods().length;
+        must(bodies.size() == declared, "all methods were read: " + bodies.keySet());
         Set<String> reached = bodies.keySet();
         for (int depth = 1; depth <= DEEPEST; depth++) {
             reached = calledBy(reached, bodies);
@@ -167,7 +176,7 @@ public final class FaceTest {
     private static Set<String> calledBy(Set<String> callers, Map<String, String> bodies) {
         Set<String> called = new TreeSet<>();
         for (String caller : callers) {
-            Matcher call = Pattern.compile("\\b(\\w+)\\(").matcher(bodies.get(caller));
+            Matcher call = CALL.matcher(bodies.get(caller));
             while (call.find()) {
                 if (bodies.containsKey(call.group(1))) {
                     called.add(call.group(1));
